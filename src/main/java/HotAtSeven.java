@@ -35,6 +35,7 @@ public final class HotAtSeven {
     private int fault;
     private int plannedBy;
     private int planCost;
+    private int countedFor;
 
     public HotAtSeven() {
         sheets = new Sheets();
@@ -192,8 +193,11 @@ public final class HotAtSeven {
 
     public int earliest() {
         if (!book.isRead()) return STATE;
+        // A plan stays one when all of it is moved later in a kitchen that always gives all.
+        other.giveAll(book, book.kitchen[K_HANDS]);
+        if (!isPossible(other, book.dinner, MINUTES)) return NONE;
         for (int t = 1; t <= MINUTES; t++) {
-            if (isPossible(book.dinner, t)) return t;
+            if (isPossible(usual, book.dinner, t)) return t;
         }
         return NONE;
     }
@@ -220,10 +224,14 @@ public final class HotAtSeven {
     public int dinners(int h, int t, int what) {
         int no = refusal(h >= 1 && h <= 3 && isTime(t) && what >= 0 && what <= 1);
         if (no != 0) return no;
-        other.fit(book, h, book.out);
-        planner.lay(book, other, book.allDishes(), t);
-        planner.settle(book.allDishes());
-        planner.countDinners();
+        int asked = h * (MINUTES + 1) + t;
+        if (countedFor != asked) {
+            other.fit(book, h, book.out);
+            planner.lay(book, other, book.allDishes(), t);
+            planner.settle(book.allDishes());
+            planner.countDinners();
+            countedFor = asked;
+        }
         return what == 0 ? planner.many : planner.greatest;
     }
 
@@ -234,7 +242,7 @@ public final class HotAtSeven {
         if (Integer.bitCount(book.dinner) < TOGETHER) {
             for (int dish = 0; dish < book.dishes; dish++) {
                 int one = 1 << dish;
-                if ((book.dinner & one) == 0 && isPossible(book.dinner | one, t)) more |= one;
+                if ((book.dinner & one) == 0 && isPossible(usual, book.dinner | one, t)) more |= one;
             }
         }
         return more;
@@ -371,6 +379,7 @@ public final class HotAtSeven {
     /** To be called when the book, the dinner or the ring that is out is another. */
     private void changed() {
         plannedBy = 0;
+        countedFor = 0;
         usual.fit(book, book.kitchen[K_HANDS], book.out);
     }
 
@@ -394,8 +403,8 @@ public final class HotAtSeven {
         return findsPlan(t) && k < plan.size;
     }
 
-    private boolean isPossible(int set, int t) {
-        planner.lay(book, usual, set, t);
+    private boolean isPossible(Kitchen kitchen, int set, int t) {
+        planner.lay(book, kitchen, set, t);
         planner.settle(set);
         return planner.findsAny(set);
     }
@@ -786,13 +795,18 @@ public final class HotAtSeven {
             return fewer[what * LEVELS + n - 1];
         }
 
-        void fit(Book book, int hands, int out) {
+        /** As if nobody were ever away and no ring out. */
+        void giveAll(Book book, int hands) {
             int[] told = book.kitchen;
             give(RINGS, told[K_SMALL] + told[K_BIG]);
             give(BIG, told[K_BIG]);
             give(SHELVES, told[K_SHELVES]);
             give(HANDS, hands);
             give(PANS, told[K_PANS]);
+        }
+
+        void fit(Book book, int hands, int out) {
+            giveAll(book, hands);
             long broken = span(out, MINUTES - out);
             giveOneLess(RINGS, broken);
             giveOneLess(BIG, broken);
@@ -920,7 +934,7 @@ public final class HotAtSeven {
 
     /** The search for plans: for each dish of a set a way, all of which the kitchen can serve together. */
     private static final class Planner {
-        private static final int ENDLESS = 1000000;
+        private static final int ENDLESS = 1000000, UNKNOWN = -1;
         private final Way[] ways = new Way[DISHES * CHOICES];
         private final int[] choices = new int[DISHES];
         private final int[] cheapest = new int[DISHES];
@@ -930,6 +944,8 @@ public final class HotAtSeven {
         private final int[] picked = new int[TOGETHER];
         private final int[] best = new int[TOGETHER];
         private final int[] rest = new int[TOGETHER + 1];
+        private final int[] agreed = new int[DISHES * CHOICES * DISHES];
+        private final int[][] open = new int[TOGETHER + 1][TOGETHER];
         private final boolean[] possible = new boolean[1 << DISHES];
         private int seated;
         private int limit;
@@ -1019,6 +1035,7 @@ public final class HotAtSeven {
                     for (int what = 0; what < GOODS; what++) ways[i].bits[what] &= ~common[what];
                 }
             }
+            for (int i = from * DISHES; i < (from + CHOICES) * DISHES; i++) agreed[i] = UNKNOWN;
         }
 
         boolean findsAny(int set) {
@@ -1044,6 +1061,7 @@ public final class HotAtSeven {
                 if ((set >> dish & 1) != 0) {
                     if (cheapest[dish] == ENDLESS) return false;
                     seats[seated] = dish;
+                    open[0][seated] = choicesThatCan(dish);
                     seated++;
                 }
             }
@@ -1058,6 +1076,14 @@ public final class HotAtSeven {
             return true;
         }
 
+        private int choicesThatCan(int dish) {
+            int can = 0;
+            for (int i = 0; i < choices[dish]; i++) {
+                if (ways[dish * CHOICES + i].can) can |= 1 << i;
+            }
+            return can;
+        }
+
         /** Choices by their numbers, and a later plan only if it costs less: the first of the least stays. */
         private void seek(int seat, int spent) {
             if (seat >= seated) {
@@ -1065,22 +1091,48 @@ public final class HotAtSeven {
                 return;
             }
             int from = seats[seat] * CHOICES;
-            for (int i = from; i < from + choices[seats[seat]]; i++) {
-                Way way = ways[i];
-                if (way.can && spent + way.cost + rest[seat + 1] < limit && fits(seat, way)) {
-                    picked[seat] = i;
+            for (int i = 0; i < choices[seats[seat]]; i++) {
+                if ((open[seat][seat] >> i & 1) == 0) continue;
+                Way way = ways[from + i];
+                if (spent + way.cost + rest[seat + 1] < limit && tallies[seat].hasRoom(way.bits)
+                        && leavesOpen(seat, from + i)) {
+                    picked[seat] = from + i;
                     if (seat + 1 < seated) tallies[seat + 1].add(tallies[seat], way.bits, kitchen);
                     seek(seat + 1, spent + way.cost);
                 }
             }
         }
 
-        private boolean fits(int seat, Way way) {
-            if (!tallies[seat].hasRoom(way.bits)) return false;
-            for (int i = 0; i < seat; i++) {
-                if (!way.agrees(book, ways[picked[i]])) return false;
+        /** What stays open for the seats behind if a way is picked here; false: nothing for one of them. */
+        private boolean leavesOpen(int seat, int pick) {
+            for (int i = seat + 1; i < seated; i++) {
+                int stays = open[seat][i] & agreeing(pick, seats[i]);
+                if (stays == 0) return false;
+                open[seat + 1][i] = stays;
             }
             return true;
+        }
+
+        /** The choices (bits) of a dish that agree with a way, so far as two ways alone can tell; found once. */
+        private int agreeing(int pick, int dish) {
+            int at = pick * DISHES + dish;
+            if (agreed[at] == UNKNOWN) {
+                Way way = ways[pick];
+                int agree = 0;
+                for (int i = 0; i < choices[dish]; i++) {
+                    Way a = ways[dish * CHOICES + i];
+                    if (a.can && !collide(way.bits, a.bits) && way.agrees(book, a)) agree |= 1 << i;
+                }
+                agreed[at] = agree;
+            }
+            return agreed[at];
+        }
+
+        private boolean collide(long[] a, long[] b) {
+            for (int what = 0; what < GOODS; what++) {
+                if ((a[what] & b[what] & kitchen.fewerThan(what, 2)) != 0) return true;
+            }
+            return false;
         }
 
         private void keepPicked(int spent) {
