@@ -179,7 +179,7 @@ public final class HotAtSeven {
     public int begins(int t, int k) {
         int no = refusal(isTime(t) && k >= 0);
         if (no != 0) return no;
-        return hasPlanned(t, k) ? plan.begins[k] : NONE;
+        return findsPlan(t) && k < plan.size ? plan.begins[k] : NONE;
     }
 
     public int seven(int t) {
@@ -188,7 +188,7 @@ public final class HotAtSeven {
         planner.lay(book, usual, book.dinner, t);
         planner.strikeEarly();
         planner.settle(book.dinner);
-        return planner.findsAny(book.dinner) ? 1 : 0;
+        return planner.finds(book.dinner, true) ? 1 : 0;
     }
 
     public int earliest() {
@@ -257,13 +257,13 @@ public final class HotAtSeven {
         planner.lay(book, other, book.dinner, t);
         planner.strikeUnlike(plan, minute);
         planner.settle(book.dinner);
-        return planner.findsLeast(book.dinner) ? planner.cost : NONE;
+        return planner.finds(book.dinner, false) ? planner.cost : NONE;
     }
 
     public int slack(int t, int k) {
         int no = refusal(isTime(t) && k >= 0);
         if (no != 0) return no;
-        if (!hasPlanned(t, k)) return NONE;
+        if (!findsPlan(t) || k >= plan.size) return NONE;
         trial.take(plan);
         for (int later = 0; later < MINUTES; later++) {
             trial.begins[k]++;
@@ -275,7 +275,7 @@ public final class HotAtSeven {
     public int bears(int t, int k, int n) {
         int no = refusal(isTime(t) && k >= 0 && n >= 1 && n <= 9);
         if (no != 0) return no;
-        if (!hasPlanned(t, k)) return NONE;
+        if (!findsPlan(t) || k >= plan.size) return NONE;
         trial.take(plan);
         trial.longs[k] += n;
         return judging.judged(book, usual, trial, t) == 0 ? 1 : 0;
@@ -389,7 +389,7 @@ public final class HotAtSeven {
             planner.lay(book, usual, book.dinner, t);
             planner.settle(book.dinner);
             planCost = NONE;
-            if (planner.findsLeast(book.dinner)) {
+            if (planner.finds(book.dinner, false)) {
                 planCost = planner.cost;
                 plan.fill(book);
                 planner.tell(plan);
@@ -399,14 +399,10 @@ public final class HotAtSeven {
         return planCost != NONE;
     }
 
-    private boolean hasPlanned(int t, int k) {
-        return findsPlan(t) && k < plan.size;
-    }
-
     private boolean isPossible(Kitchen kitchen, int set, int t) {
         planner.lay(book, kitchen, set, t);
         planner.settle(set);
-        return planner.findsAny(set);
+        return planner.finds(set, true);
     }
 
     /** The minutes from one on, so many, as bits. */
@@ -584,13 +580,16 @@ public final class HotAtSeven {
         boolean heatsAgree(int a, int beginA, int b, int beginB) {
             int fromAToB = beginB - (beginA + longs[a] - 1);
             int fromBToA = beginA - (beginB + longs[b] - 1);
-            if (fromAToB > 0) return heatsFollow(a, b, fromAToB);
-            if (fromBToA > 0) return heatsFollow(b, a, fromBToA);
-            return heatsFollow(a, b, 0);
-        }
-
-        private boolean heatsFollow(int a, int b, int minutes) {
-            return low[b] <= high[a] + kitchen[K_WARMS] * minutes && low[a] <= high[b] + kitchen[K_COOLS] * minutes;
+            int warmer = 0;
+            int cooler = 0;
+            if (fromAToB > 0) {
+                warmer = kitchen[K_WARMS] * fromAToB;
+                cooler = kitchen[K_COOLS] * fromAToB;
+            } else if (fromBToA > 0) {
+                warmer = kitchen[K_COOLS] * fromBToA;
+                cooler = kitchen[K_WARMS] * fromBToA;
+            }
+            return low[b] <= high[a] + warmer && low[a] <= high[b] + cooler;
         }
     }
 
@@ -755,10 +754,10 @@ public final class HotAtSeven {
             behind = place;
             if (place >= length) {
                 sort = END;
-            } else if (isLetter(place)) {
-                while (behind < length && isLetter(behind)) behind++;
+            } else if (tape[place] >= 'a' && tape[place] <= 'z') {
+                while (behind < length && tape[behind] >= 'a' && tape[behind] <= 'z') behind++;
                 sort = NAME;
-            } else if (isFigure(place)) {
+            } else if (tape[place] >= '0' && tape[place] <= '9') {
                 takeFigures();
             } else {
                 sort = tape[place] == ';' ? SIGN : WRONG;
@@ -768,19 +767,11 @@ public final class HotAtSeven {
 
         private void takeFigures() {
             value = 0;
-            while (behind < length && isFigure(behind)) {
+            while (behind < length && tape[behind] >= '0' && tape[behind] <= '9') {
                 value = value * 10 + tape[behind] - '0';
                 behind++;
             }
             sort = behind - place <= 2 ? NUMBER : WRONG;
-        }
-
-        private boolean isLetter(int at) {
-            return tape[at] >= 'a' && tape[at] <= 'z';
-        }
-
-        private boolean isFigure(int at) {
-            return tape[at] >= '0' && tape[at] <= '9';
         }
     }
 
@@ -917,16 +908,13 @@ public final class HotAtSeven {
         /** Whether the oven can serve this way and another one (or this one's own steps). */
         boolean agrees(Book book, Way a) {
             int first = book.first[dish];
+            int itsFirst = book.first[a.dish];
             for (int i = 0; i < book.parts[dish]; i++) {
-                if (book.word[first + i] == OVEN && !a.agreesWith(book, first + i, begins[i])) return false;
-            }
-            return true;
-        }
-
-        private boolean agreesWith(Book book, int step, int begin) {
-            int first = book.first[dish];
-            for (int i = 0; i < book.parts[dish]; i++) {
-                if (book.word[first + i] == OVEN && !book.heatsAgree(first + i, begins[i], step, begin)) return false;
+                if (book.word[first + i] != OVEN) continue;
+                for (int j = 0; j < book.parts[a.dish]; j++) {
+                    boolean both = book.word[itsFirst + j] == OVEN;
+                    if (both && !book.heatsAgree(first + i, begins[i], itsFirst + j, a.begins[j])) return false;
+                }
             }
             return true;
         }
@@ -1038,15 +1026,8 @@ public final class HotAtSeven {
             for (int i = from * DISHES; i < (from + CHOICES) * DISHES; i++) agreed[i] = UNKNOWN;
         }
 
-        boolean findsAny(int set) {
-            return finds(set, true);
-        }
-
-        boolean findsLeast(int set) {
-            return finds(set, false);
-        }
-
-        private boolean finds(int set, boolean any) {
+        /** Whether a set has a plan: any (true), or that of the least cost, the first of several. */
+        boolean finds(int set, boolean any) {
             anyWillDo = any;
             limit = ENDLESS;
             cost = NONE;
@@ -1159,7 +1140,7 @@ public final class HotAtSeven {
             int most = 0;
             for (int set = 1; set <= book.allDishes(); set++) {
                 int size = Integer.bitCount(set);
-                possible[set] = size <= TOGETHER && isBuilt(set) && findsAny(set);
+                possible[set] = size <= TOGETHER && isBuilt(set) && finds(set, true);
                 if (possible[set]) {
                     many++;
                     if (size > most) {

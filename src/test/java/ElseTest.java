@@ -8,6 +8,7 @@ public final class ElseTest {
         more();
         mend();
         mendKeepsWhatBegan();
+        mendMayBeginLater();
         slackAndBears();
         mind();
         DUE.end();
@@ -110,6 +111,18 @@ public final class ElseTest {
         DUE.is("none has begun", x.mend(20, 14), 2);
         DUE.is("not ahead of 15", x.mend(20, 15), NONE);
         DUE.is("not ahead of 16", x.mend(20, 16), NONE);
+    }
+
+    /** Dishes 0 and 1 want one hand, 0 goes first as it costs less; at 8 dish 2 needs the one ring that is left. */
+    private static void mendMayBeginLater() {
+        HotAtSeven x = with("kitchen 0 2 0 0 0 1 0;dish 1 1 0;ring 1 0 2 1;dish 1 2 0;hand 1 0;dish 0 0 0;ring 1 0 0 1;rest 1 0;");
+        x.dinner(7);
+        DUE.is("least", x.least(10, -1), 1);
+        DUE.is("dish 0", x.begins(10, 0), 8);
+        DUE.is("dish 1", x.begins(10, 1), 9);
+        DUE.is("what begins at 8 may begin later", x.mend(10, 8), 2);
+        DUE.is("what began at 8 may not", x.mend(10, 9), 1);
+        DUE.is("from 0 on", x.mend(10, 0), 2);
     }
 
     private static void slackAndBears() {

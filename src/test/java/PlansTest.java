@@ -10,6 +10,7 @@ public final class PlansTest {
         judgedWords();
         judgedOrder();
         judgedStir();
+        judgedParts();
         judgedRow();
         ties();
         waits();
@@ -113,6 +114,24 @@ public final class PlansTest {
             x.dinner(1 << d);
             for (int i = 0; i < 3; i++) judged(x, 8 + i, due[d][i], 5 + i);
         }
+    }
+
+    /** All steps of a dish want what they want, not only the last one. */
+    private static void judgedParts() {
+        HotAtSeven x = with("kitchen 1 1 1 9 9 1 1;dish 0 0 0;ring 2 0 0 1;rest 1 0;ring 2 0 0 1;dish 0 0 0;ring 5 0 0 1;"
+            + "dish 0 0 0;oven 2 0 0 1 2;rest 1 0;oven 2 0 0 3 4;dish 0 0 0;oven 5 0 0 0 9;dish 0 0 0;hand 2 0;rest 1 0;hand 2 0;dish 0 0 0;hand 5 0;");
+        x.dinner(0b11);
+        judged(x, 20, 1151, 15, 17, 18, 15);
+        x.out(18);
+        x.dinner(1);
+        judged(x, 20, 1181, 15, 17, 18);
+        x.out(60);
+        x.dinner(0b1100);
+        judged(x, 20, 1153, 15, 17, 18, 15);
+        x.dinner(0b110000);
+        judged(x, 20, 1155, 15, 17, 18, 15);
+        x.dinner(0b110);
+        judged(x, 20, 0, 15, 15, 17, 18);
     }
 
     private static void judgedRow() {
