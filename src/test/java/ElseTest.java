@@ -14,20 +14,13 @@ public final class ElseTest {
         DUE.end();
     }
 
-    private static HotAtSeven with(String text) {
-        HotAtSeven x = new HotAtSeven();
-        int dishes = Due.read(x, text);
-        DUE.is("read " + text, dishes > 0 ? 1 : dishes, 1);
-        return x;
-    }
-
     private static void dinners(HotAtSeven x, int h, int t, int many, int greatest) {
         DUE.is("dinners " + h + " by " + t, x.dinners(h, t, 0), many);
         DUE.is("greatest " + h + " by " + t, x.dinners(h, t, 1), greatest);
     }
 
     private static void dinners() {
-        HotAtSeven x = with("kitchen 0 1 0 0 0 1 0;away 30 30;dish 0 0 0;hand 2 0;dish 0 0 0;hand 2 0;dish 0 0 0;ring 1 0 2 1;");
+        HotAtSeven x = DUE.with("kitchen 0 1 0 0 0 1 0;away 30 30;dish 0 0 0;hand 2 0;dish 0 0 0;hand 2 0;dish 0 0 0;ring 1 0 2 1;");
         dinners(x, 1, 10, 3, 1);
         dinners(x, 2, 10, 6, 3);
         dinners(x, 3, 10, 7, 7);
@@ -50,14 +43,14 @@ public final class ElseTest {
         DUE.is("what -1", x.dinners(1, 1, -1), HotAtSeven.BAD);
         StringBuilder eight = new StringBuilder("kitchen 0 0 0 0 0 1 0;");
         for (int i = 0; i < 8; i++) eight.append(i == 2 ? "dish 0 0 0;rest 9 0;" : "dish 0 0 0;rest 3 0;");
-        HotAtSeven y = with(eight.toString());
+        HotAtSeven y = DUE.with(eight.toString());
         dinners(y, 1, 9, 162, 15);
         dinners(y, 1, 8, 98, 27);
         dinners(y, 1, 2, 0, NONE);
     }
 
     private static void more() {
-        HotAtSeven x = with("kitchen 0 0 0 0 0 2 0;away 20 20;dish 0 0 0;hand 2 0;dish 0 0 0;hand 2 0;dish 0 0 0;hand 1 0;dish 0 0 0;rest 1 0;"
+        HotAtSeven x = DUE.with("kitchen 0 0 0 0 0 2 0;away 20 20;dish 0 0 0;hand 2 0;dish 0 0 0;hand 2 0;dish 0 0 0;hand 1 0;dish 0 0 0;rest 1 0;"
             + "dish 0 0 0;rest 9 0;");
         DUE.is("beside 0", x.more(10), 0b11110);
         DUE.is("by 8", x.more(8), 0b01110);
@@ -74,7 +67,7 @@ public final class ElseTest {
     }
 
     private static void mend() {
-        HotAtSeven x = with("kitchen 0 2 0 0 0 1 0;dish 2 3 0;ring 1 0 0 1;dish 2 1 0;ring 1 0 0 0;");
+        HotAtSeven x = DUE.with("kitchen 0 2 0 0 0 1 0;dish 2 3 0;ring 1 0 0 1;dish 2 1 0;ring 1 0 0 0;");
         x.dinner(3);
         DUE.is("ahead", x.least(20, -1), 0);
         DUE.is("mend 0", x.mend(20, 0), 1);
@@ -82,7 +75,7 @@ public final class ElseTest {
         DUE.is("mend 19", x.mend(20, 19), NONE);
         DUE.is("mend 20", x.mend(20, 20), 0);
         DUE.is("mend 59", x.mend(20, 59), 0);
-        DUE.is("no plan ahead", with("kitchen 0 2 0 0 0 1 0;dish 0 0 0;hand 9 0;").mend(5, 0), NONE);
+        DUE.is("no plan ahead", DUE.with("kitchen 0 2 0 0 0 1 0;dish 0 0 0;hand 9 0;").mend(5, 0), NONE);
         DUE.is("nothing is out", x.count(7), 60);
         DUE.is("LEAST stays", x.least(20, -1), 0);
         DUE.is("its choices", x.least(20, 1), 0);
@@ -94,12 +87,12 @@ public final class ElseTest {
         DUE.is("bad ahead of state", x.mend(0, 0), HotAtSeven.BAD);
         x.out(60);
         DUE.is("not any more", x.mend(20, 0), 1);
-        DUE.is("no big ring", with("kitchen 3 0 0 0 0 1 0;dish 2 3 0;rest 1 0;").mend(20, 0), HotAtSeven.STATE);
+        DUE.is("no big ring", DUE.with("kitchen 3 0 0 0 0 1 0;dish 2 3 0;rest 1 0;").mend(20, 0), HotAtSeven.STATE);
     }
 
     /** Dish 0: a hand at 15, then the ring at 16 or 17; dish 1: the ring at 17. With one ring dish 0 must not wait. */
     private static void mendKeepsWhatBegan() {
-        HotAtSeven x = with("kitchen 0 2 0 0 0 1 0;away 15 15;dish 1 2 0;hand 1 1;ring 1 1 0 1;rest 2 0;dish 0 0 0;ring 1 0 0 1;rest 2 0;");
+        HotAtSeven x = DUE.with("kitchen 0 2 0 0 0 1 0;away 15 15;dish 1 2 0;hand 1 1;ring 1 1 0 1;rest 2 0;dish 0 0 0;ring 1 0 0 1;rest 2 0;");
         x.dinner(3);
         // By 20: hand 16, ring 17, rest 18; ring 17, rest 18.
         int[] begins = {16, 17, 18, 17, 18};
@@ -115,7 +108,7 @@ public final class ElseTest {
 
     /** Dishes 0 and 1 want one hand, 0 goes first as it costs less; at 8 dish 2 needs the one ring that is left. */
     private static void mendMayBeginLater() {
-        HotAtSeven x = with("kitchen 0 2 0 0 0 1 0;dish 1 1 0;ring 1 0 2 1;dish 1 2 0;hand 1 0;dish 0 0 0;ring 1 0 0 1;rest 1 0;");
+        HotAtSeven x = DUE.with("kitchen 0 2 0 0 0 1 0;dish 1 1 0;ring 1 0 2 1;dish 1 2 0;hand 1 0;dish 0 0 0;ring 1 0 0 1;rest 1 0;");
         x.dinner(7);
         DUE.is("least", x.least(10, -1), 1);
         DUE.is("dish 0", x.begins(10, 0), 8);
@@ -126,7 +119,7 @@ public final class ElseTest {
     }
 
     private static void slackAndBears() {
-        HotAtSeven x = with("kitchen 0 0 0 0 0 1 0;dish 1 0 0;hand 1 1;rest 3 0;dish 0 0 0;hand 1 0;rest 3 0;");
+        HotAtSeven x = DUE.with("kitchen 0 0 0 0 0 1 0;dish 1 0 0;hand 1 1;rest 3 0;dish 0 0 0;hand 1 0;rest 3 0;");
         x.dinner(3);
         int[] begins = {5, 6, 6, 7};
         int[] slack = {0, 1, 0, 0};
@@ -150,13 +143,13 @@ public final class ElseTest {
         DUE.is("bears 10", x.bears(10, 0, 10), HotAtSeven.BAD);
         DUE.is("bears by 0", x.bears(0, 0, 1), HotAtSeven.BAD);
         // A wait that the next step's want forces: the step ahead may begin later, or take longer.
-        HotAtSeven y = with("kitchen 0 0 0 0 0 1 0;away 7 7;dish 2 9 0;rest 3 1;hand 1 1;rest 2 0;dish 0 9 0;rest 1 1;hand 1 0;rest 1 0;");
+        HotAtSeven y = DUE.with("kitchen 0 0 0 0 0 1 0;away 7 7;dish 2 9 0;rest 3 1;hand 1 1;rest 2 0;dish 0 9 0;rest 1 1;hand 1 0;rest 1 0;");
         y.dinner(1);
         DUE.is("waits", y.least(10, -1), 1);
         DUE.is("rest", y.begins(10, 0), 3);
         DUE.is("slack of the rest", y.slack(10, 0), 0);
         DUE.is("bears of the rest", y.bears(10, 0, 1), 0);
-        HotAtSeven z = with("kitchen 1 0 0 0 0 1 0;away 5 5;dish 0 9 0;hand 2 1;rest 2 0;dish 0 9 0;ring 1 1 0 0;rest 2 0;dish 0 0 0;ring 1 0 0 0;rest 2 0;");
+        HotAtSeven z = DUE.with("kitchen 1 0 0 0 0 1 0;away 5 5;dish 0 9 0;hand 2 1;rest 2 0;dish 0 9 0;ring 1 1 0 0;rest 2 0;dish 0 0 0;ring 1 0 0 0;rest 2 0;");
         DUE.is("the hand begins earlier", z.begins(8, 0), 3);
         DUE.is("it has no more", z.bears(8, 0, 1), 0);
         z.dinner(0b110);
@@ -165,13 +158,13 @@ public final class ElseTest {
         DUE.is("taken", z.slack(8, 0), 0);
         DUE.is("taken", z.bears(8, 0, 1), 0);
         // A hand at the beginning alone: the ring may take longer, into the wait behind it.
-        HotAtSeven v = with("kitchen 1 0 0 0 0 1 0;away 5 5;dish 0 9 0;ring 2 1 1 0;rest 2 0;");
+        HotAtSeven v = DUE.with("kitchen 1 0 0 0 0 1 0;away 5 5;dish 0 9 0;ring 2 1 1 0;rest 2 0;");
         DUE.is("ring", v.begins(9, 0), 4);
         DUE.is("ring bears", v.bears(9, 0, 1), 1);
         DUE.is("ring bears no more", v.bears(9, 0, 2), 0);
         DUE.is("ring slack", v.slack(9, 0), 0);
         // Done one minute early, the last of three steps may begin a minute later.
-        HotAtSeven w = with("kitchen 0 0 0 0 0 1 0;dish 2 0 0;hand 1 1;rest 3 1;rest 1 0;dish 0 0 0;hand 1 0;rest 4 0;");
+        HotAtSeven w = DUE.with("kitchen 0 0 0 0 0 1 0;dish 2 0 0;hand 1 1;rest 3 1;rest 1 0;dish 0 0 0;hand 1 0;rest 4 0;");
         w.dinner(3);
         DUE.is("early", w.least(10, 0), 1);
         DUE.is("last", w.slack(10, 2), 1);
@@ -180,7 +173,7 @@ public final class ElseTest {
     }
 
     private static void mind() {
-        HotAtSeven x = with("kitchen 0 0 0 0 0 1 0;dish 0 0 0;rest 1 0;dish 1 0 0;hand 1 1;rest 3 0;dish 0 0 0;hand 1 0;rest 3 0;");
+        HotAtSeven x = DUE.with("kitchen 0 0 0 0 0 1 0;dish 0 0 0;rest 1 0;dish 1 0 0;hand 1 1;rest 3 0;dish 0 0 0;hand 1 0;rest 3 0;");
         x.dinner(0b110);
         int[] due = {0, 0, 0, 0, 0, 0, 1, 3, NONE, NONE};
         for (int m = 0; m < due.length; m++) DUE.is("mind " + m, x.mind(10, m), due[m]);
@@ -189,6 +182,6 @@ public final class ElseTest {
         DUE.is("minute 60", x.mind(10, 60), HotAtSeven.BAD);
         DUE.is("minute -1", x.mind(10, -1), HotAtSeven.BAD);
         DUE.is("by 0", x.mind(0, 0), HotAtSeven.BAD);
-        DUE.is("the last minute", with("kitchen 0 0 0 0 0 1 0;dish 0 0 0;rest 1 0;").mind(60, 59), 0);
+        DUE.is("the last minute", DUE.with("kitchen 0 0 0 0 0 1 0;dish 0 0 0;rest 1 0;").mind(60, 59), 0);
     }
 }

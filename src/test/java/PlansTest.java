@@ -25,13 +25,6 @@ public final class PlansTest {
         DUE.end();
     }
 
-    private static HotAtSeven with(String text) {
-        HotAtSeven x = new HotAtSeven();
-        int dishes = Due.read(x, text);
-        DUE.is("read " + text, dishes > 0 ? 1 : dishes, 1);
-        return x;
-    }
-
     private static void judged(HotAtSeven x, int t, int want, int... begins) {
         x.sheet(5, 2, begins.length);
         for (int i = 0; i < begins.length; i++) x.set(5, i, begins[i]);
@@ -41,7 +34,7 @@ public final class PlansTest {
     }
 
     private static void judgedWords() {
-        HotAtSeven x = with(MANY);
+        HotAtSeven x = DUE.with(MANY);
         x.dinner(0b11);
         judged(x, 10, 1061, 6, 6);
         x.dinner(0b1100);
@@ -67,7 +60,7 @@ public final class PlansTest {
         judged(x, 10, 1081, 6);
         judged(x, 8, 0, 4);
         judged(x, 9, 1081, 5);
-        HotAtSeven y = with("kitchen 0 0 0 0 0 2 1;away 8 8;away 9 9;dish 0 0 1;hand 4 0;dish 0 0 1;hand 2 0;");
+        HotAtSeven y = DUE.with("kitchen 0 0 0 0 0 2 1;away 8 8;away 9 9;dish 0 0 1;hand 4 0;dish 0 0 1;hand 2 0;");
         y.dinner(3);
         judged(y, 10, 1085, 6, 8);
         judged(y, 8, 1066, 4, 6);
@@ -76,7 +69,7 @@ public final class PlansTest {
     }
 
     private static void judgedOrder() {
-        HotAtSeven x = with("kitchen 0 0 0 0 0 1 9;dish 1 0 0;rest 3 1;rest 2 0;dish 0 0 0;rest 4 0;");
+        HotAtSeven x = DUE.with("kitchen 0 0 0 0 0 1 9;dish 1 0 0;rest 3 1;rest 2 0;dish 0 0 0;rest 4 0;");
         x.dinner(3);
         judged(x, 20, 0, 15, 18, 16);
         judged(x, 20, 0, 14, 17, 16);
@@ -107,7 +100,7 @@ public final class PlansTest {
     }
 
     private static void judgedStir() {
-        HotAtSeven x = with("kitchen 3 0 3 9 9 1 9;away 7 7;dish 0 0 0;ring 3 0 0 0;dish 0 0 0;ring 3 0 1 0;"
+        HotAtSeven x = DUE.with("kitchen 3 0 3 9 9 1 9;away 7 7;dish 0 0 0;ring 3 0 0 0;dish 0 0 0;ring 3 0 1 0;"
             + "dish 0 0 0;ring 3 0 2 0;dish 0 0 0;oven 3 0 1 0 9;dish 0 0 0;oven 3 0 2 0 9;");
         int[][] due = {{0, 0, 0}, {0, 0, 1075}, {1075, 1075, 1075}, {0, 0, 1075}, {1075, 1075, 1075}};
         for (int d = 0; d < 5; d++) {
@@ -118,7 +111,7 @@ public final class PlansTest {
 
     /** All steps of a dish want what they want, not only the last one. */
     private static void judgedParts() {
-        HotAtSeven x = with("kitchen 1 1 1 9 9 1 1;dish 0 0 0;ring 2 0 0 1;rest 1 0;ring 2 0 0 1;dish 0 0 0;ring 5 0 0 1;"
+        HotAtSeven x = DUE.with("kitchen 1 1 1 9 9 1 1;dish 0 0 0;ring 2 0 0 1;rest 1 0;ring 2 0 0 1;dish 0 0 0;ring 5 0 0 1;"
             + "dish 0 0 0;oven 2 0 0 1 2;rest 1 0;oven 2 0 0 3 4;dish 0 0 0;oven 5 0 0 0 9;dish 0 0 0;hand 2 0;rest 1 0;hand 2 0;dish 0 0 0;hand 5 0;");
         x.dinner(0b11);
         judged(x, 20, 1151, 15, 17, 18, 15);
@@ -135,7 +128,7 @@ public final class PlansTest {
     }
 
     private static void judgedRow() {
-        HotAtSeven x = with("kitchen 0 0 0 0 0 1 9;dish 0 0 0;rest 3 1;rest 2 0;");
+        HotAtSeven x = DUE.with("kitchen 0 0 0 0 0 1 9;dish 0 0 0;rest 3 1;rest 2 0;");
         x.sheet(0, 0, 4);
         x.set(0, 2, 15);
         x.set(0, 3, 18);
@@ -163,7 +156,7 @@ public final class PlansTest {
     }
 
     private static void ties() {
-        HotAtSeven x = with("kitchen 0 0 0 0 0 1 0;dish 1 0 0;hand 1 0;dish 1 0 0;hand 1 0;dish 1 3 0;hand 1 0;dish 2 1 0;hand 1 0;");
+        HotAtSeven x = DUE.with("kitchen 0 0 0 0 0 1 0;dish 1 0 0;hand 1 0;dish 1 0 0;hand 1 0;dish 1 3 0;hand 1 0;dish 2 1 0;hand 1 0;");
         x.dinner(0b11);
         least(x, 10, 0, 0, 1);
         begins(x, 10, 9, 8);
@@ -185,12 +178,12 @@ public final class PlansTest {
     }
 
     private static void waits() {
-        HotAtSeven x = with("kitchen 0 0 0 0 0 1 0;dish 0 0 0;hand 1 1;rest 2 0;dish 0 0 0;hand 1 0;rest 2 0;");
+        HotAtSeven x = DUE.with("kitchen 0 0 0 0 0 1 0;dish 0 0 0;hand 1 1;rest 2 0;dish 0 0 0;hand 1 0;rest 2 0;");
         x.dinner(3);
         least(x, 10, 1, 1, 0);
         begins(x, 10, 6, 8, 7, 8);
         // The first of two waits that cost the same, and the second if only that serves.
-        HotAtSeven y = with("kitchen 1 0 0 0 0 1 0;away 17 17;dish 1 9 0;hand 1 1;ring 1 1 0 0;hand 1 0;dish 0 0 0;ring 1 0 0 0;rest 1 0;");
+        HotAtSeven y = DUE.with("kitchen 1 0 0 0 0 1 0;away 17 17;dish 1 9 0;hand 1 1;ring 1 1 0 0;hand 1 0;dish 0 0 0;ring 1 0 0 0;rest 1 0;");
         least(y, 20, 1, 2);
         begins(y, 20, 16, 18, 19);
         y.dinner(3);
@@ -199,7 +192,7 @@ public final class PlansTest {
     }
 
     private static void losses() {
-        HotAtSeven x = with("kitchen 0 0 0 0 0 1 0;away 9 9;dish 2 4 0;keep 5 1 3;hand 1 0;keep 2 0 9;");
+        HotAtSeven x = DUE.with("kitchen 0 0 0 0 0 1 0;away 9 9;dish 2 4 0;keep 5 1 3;hand 1 0;keep 2 0 9;");
         least(x, 11, 5 * 3 + 2 * 9, 0);
         least(x, 12, 5 * 3 + 2 * 9 + 4, 1);
         least(x, 7, NONE);
@@ -208,25 +201,25 @@ public final class PlansTest {
 
     private static void pans() {
         String dish = "dish 2 1 1;rest 2 0;";
-        HotAtSeven x = with("kitchen 0 0 0 0 0 1 1;" + dish + dish + "dish 0 0 0;rest 2 0;");
+        HotAtSeven x = DUE.with("kitchen 0 0 0 0 0 1 1;" + dish + dish + "dish 0 0 0;rest 2 0;");
         x.dinner(0b11);
         least(x, 10, 2, 0, 2);
         x.dinner(0b101);
         least(x, 10, 0, 0, 0);
-        HotAtSeven none = with("kitchen 0 0 0 0 0 1 0;" + dish);
+        HotAtSeven none = DUE.with("kitchen 0 0 0 0 0 1 0;" + dish);
         least(none, 10, NONE);
         // The pan is held through a wait, and no longer than the last step.
-        HotAtSeven wait = with("kitchen 0 0 0 0 0 1 1;away 7 7;dish 0 0 1;hand 1 1;rest 2 0;dish 2 0 1;rest 1 0;rest 1 0;");
+        HotAtSeven wait = DUE.with("kitchen 0 0 0 0 0 1 1;away 7 7;dish 0 0 1;hand 1 1;rest 2 0;dish 2 0 1;rest 1 0;rest 1 0;");
         wait.dinner(3);
         least(wait, 10, NONE);
         judged(wait, 10, 1066, 6, 8, 6, 7);
     }
 
     private static void seven() {
-        HotAtSeven x = with("kitchen 0 0 0 0 0 1 0;away 30 30;dish 1 0 0;hand 1 0;dish 1 0 0;hand 1 1;rest 1 0;dish 0 0 0;hand 1 0;rest 1 0;");
+        HotAtSeven x = DUE.with("kitchen 0 0 0 0 0 1 0;away 30 30;dish 1 0 0;hand 1 0;dish 1 0 0;hand 1 1;rest 1 0;dish 0 0 0;hand 1 0;rest 1 0;");
         DUE.is("alone", x.seven(10), 1);
         DUE.is("away", x.seven(31), 0);
-        DUE.is("with waits", with("kitchen 0 0 0 0 0 1 0;away 8 8;dish 0 0 0;hand 1 1;rest 1 0;").seven(10), 1);
+        DUE.is("with waits", DUE.with("kitchen 0 0 0 0 0 1 0;away 8 8;dish 0 0 0;hand 1 1;rest 1 0;").seven(10), 1);
         x.dinner(0b110);
         DUE.is("one waits", x.seven(10), 1);
         x.dinner(0b101);
@@ -236,14 +229,14 @@ public final class PlansTest {
         DUE.is("by 2", x.seven(2), 0);
         DUE.is("by 0", x.seven(0), HotAtSeven.BAD);
         DUE.is("by 61", x.seven(61), HotAtSeven.BAD);
-        HotAtSeven y = with("kitchen 0 0 0 0 0 1 0;dish 1 0 0;hand 1 0;dish 1 0 0;hand 1 0;");
+        HotAtSeven y = DUE.with("kitchen 0 0 0 0 0 1 0;dish 1 0 0;hand 1 0;dish 1 0 0;hand 1 0;");
         y.dinner(3);
         DUE.is("a plan, but not so", y.seven(10), 0);
         DUE.is("a plan", y.least(10, -1), 0);
     }
 
     private static void earliest() {
-        HotAtSeven x = with("kitchen 0 1 1 1 1 1 0;away 3 50;dish 0 0 0;hand 5 0;dish 0 0 0;oven 3 0 0 4 9;dish 0 0 0;ring 30 0 0 1;"
+        HotAtSeven x = DUE.with("kitchen 0 1 1 1 1 1 0;away 3 50;dish 0 0 0;hand 5 0;dish 0 0 0;oven 3 0 0 4 9;dish 0 0 0;ring 30 0 0 1;"
             + "dish 0 0 0;rest 30 0;rest 30 0;rest 1 0;dish 0 0 0;rest 30 0;rest 30 0;dish 2 0 0;rest 9 0;dish 0 0 0;ring 1 0 0 1;");
         int[] due = {56, 6, 30, NONE, 60, 9, 1};
         for (int d = 0; d < 7; d++) {
@@ -262,7 +255,7 @@ public final class PlansTest {
     }
 
     private static void heats() {
-        HotAtSeven x = with(MANY);
+        HotAtSeven x = DUE.with(MANY);
         x.dinner(0b10000);
         int[] due = {0, 0, 0, 0, 1, 3, 5, 5, 5, 5, 4, 3, 2, 1, 0, 0};
         for (int m = 0; m < due.length; m++) DUE.is("heat " + m, x.heat(10, m), due[m]);
@@ -271,31 +264,31 @@ public final class PlansTest {
         DUE.is("minute -1", x.heat(10, -1), HotAtSeven.BAD);
         DUE.is("minute 60", x.heat(10, 60), HotAtSeven.BAD);
         DUE.is("by 61", x.heat(61, 0), HotAtSeven.BAD);
-        HotAtSeven y = with("kitchen 0 0 1 9 0 1 0;dish 0 0 0;oven 2 0 0 3 4;");
+        HotAtSeven y = DUE.with("kitchen 0 0 1 9 0 1 0;dish 0 0 0;oven 2 0 0 3 4;");
         int[] stays = {0, 0, 0, 3, 3, 3, 3};
         for (int m = 0; m < stays.length; m++) DUE.is("stays " + m, y.heat(5, m), stays[m]);
         DUE.is("stays", y.heat(5, 59), 3);
-        HotAtSeven cold = with("kitchen 0 0 1 0 9 1 0;dish 0 0 0;oven 2 0 0 0 4;dish 0 0 0;oven 2 0 0 1 4;");
+        HotAtSeven cold = DUE.with("kitchen 0 0 1 0 9 1 0;dish 0 0 0;oven 2 0 0 0 4;dish 0 0 0;oven 2 0 0 1 4;");
         DUE.is("cold", cold.heat(60, 59), 0);
         cold.dinner(2);
         DUE.is("never", cold.earliest(), NONE);
     }
 
     private static void heatsBetween() {
-        HotAtSeven x = with("kitchen 0 0 2 5 1 1 0;dish 0 0 0;oven 2 0 0 0 2;oven 2 0 0 6 9;dish 0 0 0;oven 1 0 0 4 9;rest 4 0;");
+        HotAtSeven x = DUE.with("kitchen 0 0 2 5 1 1 0;dish 0 0 0;oven 2 0 0 0 2;oven 2 0 0 6 9;dish 0 0 0;oven 1 0 0 4 9;rest 4 0;");
         int[] due = {0, 0, 0, 0, 0, 0, 0, 1, 6, 6, 5};
         for (int m = 0; m < due.length; m++) DUE.is("between " + m, x.heat(10, m), due[m]);
         // 4 at minute 5 cannot fall to 2 by minute 6, but by minute 7, one wait later.
         x.dinner(3);
         DUE.is("too hot", x.least(10, -1), NONE);
         DUE.is("never", x.earliest(), NONE);
-        HotAtSeven y = with("kitchen 0 0 1 9 2 1 0;dish 0 0 0;oven 2 1 0 9 9;oven 2 0 0 0 5;");
+        HotAtSeven y = DUE.with("kitchen 0 0 1 9 2 1 0;dish 0 0 0;oven 2 1 0 9 9;oven 2 0 0 0 5;");
         DUE.is("cools in a wait", y.least(20, -1), 1);
         DUE.is("its choice", y.least(20, 0), 1);
         int[] cools = {0, 9, 9, 7, 5, 3, 1, 0};
         for (int m = 0; m < cools.length; m++) DUE.is("cools " + m, y.heat(20, 14 + m), cools[m]);
         // Two dishes in one oven at once: both wants at once.
-        HotAtSeven z = with("kitchen 0 0 2 9 9 1 0;dish 0 0 0;oven 3 0 0 2 6;dish 2 7 0;oven 1 0 0 5 9;dish 0 0 0;oven 1 0 0 7 9;");
+        HotAtSeven z = DUE.with("kitchen 0 0 2 9 9 1 0;dish 0 0 0;oven 3 0 0 2 6;dish 2 7 0;oven 1 0 0 5 9;dish 0 0 0;oven 1 0 0 7 9;");
         z.dinner(3);
         DUE.is("both", z.least(20, -1), 0);
         DUE.is("both at 18", z.heat(20, 18), 2);
@@ -306,7 +299,7 @@ public final class PlansTest {
     }
 
     private static void wanted() {
-        HotAtSeven x = with("kitchen 1 1 2 9 9 3 2;dish 0 0 1;ring 2 1 1 1;rest 1 0;oven 3 0 2 1 4;dish 0 0 1;ring 4 0 0 0;hand 3 0;");
+        HotAtSeven x = DUE.with("kitchen 1 1 2 9 9 3 2;dish 0 0 1;ring 2 1 1 1;rest 1 0;oven 3 0 2 1 4;dish 0 0 1;ring 4 0 0 0;hand 3 0;");
         x.dinner(3);
         DUE.is("plan", x.least(10, -1), 0);
         int[][] due = {{2, 0, 0, 0, 0}, {3, 0, 1, 0, 1}, {4, 1, 2, 0, 2}, {5, 0, 2, 0, 2}, {6, 0, 1, 0, 2}, {7, 2, 0, 1, 2}, {9, 2, 0, 1, 2}, {10, 0, 0, 0, 0}};
@@ -320,7 +313,7 @@ public final class PlansTest {
     }
 
     private static void lastMinute() {
-        HotAtSeven x = with("kitchen 3 3 3 9 9 3 9;dish 0 0 1;oven 30 0 2 9 9;ring 30 0 2 1;");
+        HotAtSeven x = DUE.with("kitchen 3 3 3 9 9 3 9;dish 0 0 1;oven 30 0 2 9 9;ring 30 0 2 1;");
         DUE.is("earliest", x.earliest(), 60);
         begins(x, 60, 0, 30);
         DUE.is("heat 0", x.heat(60, 0), 9);
