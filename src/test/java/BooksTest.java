@@ -46,88 +46,74 @@ public final class BooksTest {
         DUE.is("are no token", x.fault(), 1);
     }
 
-    private static void reads(String text, int dishes) {
-        HotAtSeven x = new HotAtSeven();
-        DUE.is(text, Due.read(x, text), dishes);
-        DUE.is("no fault: " + text, x.fault(), 0);
-    }
-
-    private static void fails(String text, int place, int fault) {
-        HotAtSeven x = new HotAtSeven();
-        DUE.is(text, Due.read(x, text), -1000100 - place);
-        DUE.is("fault: " + text, x.fault(), fault);
-        DUE.is("empty then: " + text, x.count(6), 0);
-        DUE.is("no book: " + text, x.earliest(), HotAtSeven.STATE);
-    }
-
     private static void good() {
-        reads(HEAD + HAND, 1);
-        reads(" \n" + HEAD + "\n\n " + HAND + " \n", 1);
-        reads("kitchen 01 1 1 03 2 1 2 ;\ndish 0 0 00;\nhand 30 0;", 1);
-        reads("kitchen 3 3 3 9 9 3 9;away 0 59;away 59 59;away 0 0;away 5 7;dish 2 9 1;ring 30 1 2 1;oven 30 1 2 9 9;keep 30 1 9;", 1);
-        reads("kitchen 0 0 0 0 0 1 0;dish 0 0 0;oven 1 0 0 0 0;", 1);
-        reads(HEAD + "hand 1 0;hand 1 0;hand 1 0;dish 1 1 1;rest 1 0;", 2);
-        reads("kitchen1 1 1 3 2 1 2;dish0 0 0;hand1 0;", 1);
+        DUE.reads(HEAD + HAND, 1);
+        DUE.reads(" \n" + HEAD + "\n\n " + HAND + " \n", 1);
+        DUE.reads("kitchen 01 1 1 03 2 1 2 ;\ndish 0 0 00;\nhand 30 0;", 1);
+        DUE.reads("kitchen 3 3 3 9 9 3 9;away 0 59;away 59 59;away 0 0;away 5 7;dish 2 9 1;ring 30 1 2 1;oven 30 1 2 9 9;keep 30 1 9;", 1);
+        DUE.reads("kitchen 0 0 0 0 0 1 0;dish 0 0 0;oven 1 0 0 0 0;", 1);
+        DUE.reads(HEAD + "hand 1 0;hand 1 0;hand 1 0;dish 1 1 1;rest 1 0;", 2);
+        DUE.reads("kitchen1 1 1 3 2 1 2;dish0 0 0;hand1 0;", 1);
     }
 
     private static void faults() {
-        fails("", 0, 1);
-        fails("  \n", 3, 1);
-        fails("kitchens 1 1 1 3 2 1 2;", 0, 1);
-        fails("Kitchen 1 1 1 3 2 1 2;", 0, 1);
-        fails("kitcheN 1 1 1 3 2 1 2;", 0, 1);
-        fails("kitchen\t1 1 1 3 2 1 2;", 7, 1);
-        fails(" dish 0 0 0;", 1, 1);
-        fails("kitchen 1 1 1 3 2 1;", 19, 1);
-        fails("kitchen 1 1 1 3 2 1 2 0;", 22, 1);
-        fails("kitchen 1 4 1 3 2 1 2;", 10, 2);
-        fails("kitchen 1 1 4 3 2 1 2;", 12, 2);
-        fails("kitchen 1 1 1 10 2 1 2;", 14, 2);
-        fails("kitchen 1 1 1 3 10 1 2;", 16, 2);
-        fails("kitchen 1 1 1 3 2 1 10;", 20, 2);
-        fails("kitchen 1 1 1 003 2 1 2;", 14, 1);
-        fails("kitchen 1 1 1 -3 2 1 2;", 14, 1);
-        fails("kitchen 4 x", 8, 2);
-        fails(KITCHEN + "away 60 60;", 27, 2);
-        fails(KITCHEN + "away 5;", 28, 1);
-        fails(KITCHEN + "away 5 dish", 29, 1);
-        fails(KITCHEN + HAND, 22, 1);
-        fails(KITCHEN + ";", 22, 1);
-        fails(KITCHEN + "kitchen", 22, 1);
-        fails(KITCHEN + "dish 0 10 0;", 29, 2);
-        fails(HEAD + "dish 0 0 0;", 33, 1);
-        fails(HEAD + "away 1 2;", 33, 1);
-        fails(HEAD + HAND + "away 1 2;", 42, 1);
-        fails(HEAD + HAND + "5", 42, 1);
-        fails(HEAD + HAND + "kitchen", 42, 1);
-        fails(HEAD + "keep 1 0 10;", 42, 2);
-        fails(HEAD + "rest 1 0 0;", 42, 1);
-        fails(HEAD + "hand 1 0 2;", 42, 1);
-        fails(HEAD + "oven 1 0 3 0 0;", 42, 2);
-        fails(HEAD + "oven 1 0 0 9 10;", 46, 2);
-        fails(HEAD + "oven 1 0 0 9;", 45, 1);
-        fails(HEAD + "ring 1 0 0 2;", 44, 2);
-        fails(HEAD + "ring 1 0 0;", 43, 1);
-        fails(HEAD + "ring 99 0 0 0;", 38, 2);
-        fails(HEAD + "hand 1 0", 41, 1);
-        fails(HEAD + "hand 1 0  ", 43, 1);
-        fails(HEAD + "hand 1 0;.", 42, 1);
+        DUE.fails("", 0, 1);
+        DUE.fails("  \n", 3, 1);
+        DUE.fails("kitchens 1 1 1 3 2 1 2;", 0, 1);
+        DUE.fails("Kitchen 1 1 1 3 2 1 2;", 0, 1);
+        DUE.fails("kitcheN 1 1 1 3 2 1 2;", 0, 1);
+        DUE.fails("kitchen\t1 1 1 3 2 1 2;", 7, 1);
+        DUE.fails(" dish 0 0 0;", 1, 1);
+        DUE.fails("kitchen 1 1 1 3 2 1;", 19, 1);
+        DUE.fails("kitchen 1 1 1 3 2 1 2 0;", 22, 1);
+        DUE.fails("kitchen 1 4 1 3 2 1 2;", 10, 2);
+        DUE.fails("kitchen 1 1 4 3 2 1 2;", 12, 2);
+        DUE.fails("kitchen 1 1 1 10 2 1 2;", 14, 2);
+        DUE.fails("kitchen 1 1 1 3 10 1 2;", 16, 2);
+        DUE.fails("kitchen 1 1 1 3 2 1 10;", 20, 2);
+        DUE.fails("kitchen 1 1 1 003 2 1 2;", 14, 1);
+        DUE.fails("kitchen 1 1 1 -3 2 1 2;", 14, 1);
+        DUE.fails("kitchen 4 x", 8, 2);
+        DUE.fails(KITCHEN + "away 60 60;", 27, 2);
+        DUE.fails(KITCHEN + "away 5;", 28, 1);
+        DUE.fails(KITCHEN + "away 5 dish", 29, 1);
+        DUE.fails(KITCHEN + HAND, 22, 1);
+        DUE.fails(KITCHEN + ";", 22, 1);
+        DUE.fails(KITCHEN + "kitchen", 22, 1);
+        DUE.fails(KITCHEN + "dish 0 10 0;", 29, 2);
+        DUE.fails(HEAD + "dish 0 0 0;", 33, 1);
+        DUE.fails(HEAD + "away 1 2;", 33, 1);
+        DUE.fails(HEAD + HAND + "away 1 2;", 42, 1);
+        DUE.fails(HEAD + HAND + "5", 42, 1);
+        DUE.fails(HEAD + HAND + "kitchen", 42, 1);
+        DUE.fails(HEAD + "keep 1 0 10;", 42, 2);
+        DUE.fails(HEAD + "rest 1 0 0;", 42, 1);
+        DUE.fails(HEAD + "hand 1 0 2;", 42, 1);
+        DUE.fails(HEAD + "oven 1 0 3 0 0;", 42, 2);
+        DUE.fails(HEAD + "oven 1 0 0 9 10;", 46, 2);
+        DUE.fails(HEAD + "oven 1 0 0 9;", 45, 1);
+        DUE.fails(HEAD + "ring 1 0 0 2;", 44, 2);
+        DUE.fails(HEAD + "ring 1 0 0;", 43, 1);
+        DUE.fails(HEAD + "ring 99 0 0 0;", 38, 2);
+        DUE.fails(HEAD + "hand 1 0", 41, 1);
+        DUE.fails(HEAD + "hand 1 0  ", 43, 1);
+        DUE.fails(HEAD + "hand 1 0;.", 42, 1);
     }
 
     private static void room() {
         String away = "away 1 2;";
-        fails(KITCHEN + away + away + away + away + away, 58, 3);
-        fails(KITCHEN + away + away + away + away + " away", 59, 3);
-        fails(KITCHEN + away + away + away + away + "aways", 58, 1);
-        fails(HEAD + HAND + HAND + HAND + HAND, 60, 3);
-        fails(HEAD + HAND + HAND + HAND + "keep", 60, 3);
-        fails(HEAD + HAND + HAND + HAND + "boil", 60, 1);
+        DUE.fails(KITCHEN + away + away + away + away + away, 58, 3);
+        DUE.fails(KITCHEN + away + away + away + away + " away", 59, 3);
+        DUE.fails(KITCHEN + away + away + away + away + "aways", 58, 1);
+        DUE.fails(HEAD + HAND + HAND + HAND + HAND, 60, 3);
+        DUE.fails(HEAD + HAND + HAND + HAND + "keep", 60, 3);
+        DUE.fails(HEAD + HAND + HAND + HAND + "boil", 60, 1);
         StringBuilder eight = new StringBuilder(KITCHEN);
         for (int i = 0; i < 8; i++) eight.append("dish 0 0 0;" + HAND + HAND + HAND);
-        reads(eight.toString(), 8);
-        fails(eight + "dish", eight.length(), 3);
-        fails(eight + HAND, eight.length(), 3);
-        fails(eight + "dishes", eight.length(), 1);
+        DUE.reads(eight.toString(), 8);
+        DUE.fails(eight + "dish", eight.length(), 3);
+        DUE.fails(eight + HAND, eight.length(), 3);
+        DUE.fails(eight + "dishes", eight.length(), 1);
         HotAtSeven x = new HotAtSeven();
         Due.read(x, eight.toString());
         DUE.is("24 steps", x.count(2), 24);

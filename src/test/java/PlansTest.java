@@ -25,78 +25,70 @@ public final class PlansTest {
         DUE.end();
     }
 
-    private static void judged(HotAtSeven x, int t, int want, int... begins) {
-        x.sheet(5, 2, begins.length);
-        for (int i = 0; i < begins.length; i++) x.set(5, i, begins[i]);
-        StringBuilder at = new StringBuilder("judge by " + t + ":");
-        for (int b : begins) at.append(' ').append(b);
-        DUE.is(at.toString(), x.judge(5, 0, t), want);
-    }
-
     private static void judgedWords() {
         HotAtSeven x = DUE.with(MANY);
         x.dinner(0b11);
-        judged(x, 10, 1061, 6, 6);
+        DUE.judged(x, 10, 1061, 6, 6);
         x.dinner(0b1100);
-        judged(x, 10, 0, 6, 6);
+        DUE.judged(x, 10, 0, 6, 6);
         x.dinner(0b1101);
-        judged(x, 10, 1062, 6, 6, 6);
+        DUE.judged(x, 10, 1062, 6, 6, 6);
         x.dinner(0b111);
-        judged(x, 10, 1061, 6, 6, 6);
+        DUE.judged(x, 10, 1061, 6, 6, 6);
         x.dinner(0b110000);
-        judged(x, 10, 1083, 6, 8);
+        DUE.judged(x, 10, 1083, 6, 8);
         x.dinner(0b10000);
-        judged(x, 4, 1004, 0);
-        judged(x, 5, 1014, 1);
-        judged(x, 6, 0, 2);
+        DUE.judged(x, 4, 1004, 0);
+        DUE.judged(x, 5, 1014, 1);
+        DUE.judged(x, 6, 0, 2);
         x.dinner(0b11000000);
-        judged(x, 10, 1085, 6, 8);
+        DUE.judged(x, 10, 1085, 6, 8);
         x.dinner(0b10000011);
-        judged(x, 10, 1061, 6, 6, 8);
+        DUE.judged(x, 10, 1061, 6, 6, 8);
         x.dinner(0b1100);
         x.out(8);
-        judged(x, 10, 1082, 6, 6);
+        DUE.judged(x, 10, 1082, 6, 6);
         x.dinner(1);
-        judged(x, 10, 1081, 6);
-        judged(x, 8, 0, 4);
-        judged(x, 9, 1081, 5);
+        DUE.judged(x, 10, 1081, 6);
+        DUE.judged(x, 8, 0, 4);
+        DUE.judged(x, 9, 1081, 5);
         HotAtSeven y = DUE.with("kitchen 0 0 0 0 0 2 1;away 8 8;away 9 9;dish 0 0 1;hand 4 0;dish 0 0 1;hand 2 0;");
         y.dinner(3);
-        judged(y, 10, 1085, 6, 8);
-        judged(y, 8, 1066, 4, 6);
+        DUE.judged(y, 10, 1085, 6, 8);
+        DUE.judged(y, 8, 1066, 4, 6);
         y.dinner(1);
-        judged(y, 10, 0, 6);
+        DUE.judged(y, 10, 0, 6);
     }
 
     private static void judgedOrder() {
         HotAtSeven x = DUE.with("kitchen 0 0 0 0 0 1 9;dish 1 0 0;rest 3 1;rest 2 0;dish 0 0 0;rest 4 0;");
         x.dinner(3);
-        judged(x, 20, 0, 15, 18, 16);
-        judged(x, 20, 0, 14, 17, 16);
-        judged(x, 20, 0, 14, 18, 16);
-        judged(x, 20, 13, 13, 16, 16);
-        judged(x, 20, 12, 13, 18, 16);
-        judged(x, 20, 12, 16, 18, 16);
-        judged(x, 20, 13, 16, 19, 16);
-        judged(x, 20, 23, 15, 18, 15);
-        judged(x, 20, 23, 15, 18, 17);
-        judged(x, 20, 13, 16, 19, 15);
-        judged(x, 20, 12, 0, 18, 99 - 59);
-        judged(x, 20, 21, 0, 18, 57);
-        judged(x, 20, 21, 16, 18, -1);
-        judged(x, 20, 1, -1, 59, -1);
-        judged(x, 20, 11, 0, 59, -1);
-        judged(x, 20, 1, Integer.MAX_VALUE, 18, 16);
-        judged(x, 20, 1, Integer.MIN_VALUE, 18, 16);
-        judged(x, 60, 0, 55, 58, 56);
-        judged(x, 60, 11, 55, 59, 56);
-        judged(x, 60, 1, 58, 58, 56);
+        DUE.judged(x, 20, 0, 15, 18, 16);
+        DUE.judged(x, 20, 0, 14, 17, 16);
+        DUE.judged(x, 20, 0, 14, 18, 16);
+        DUE.judged(x, 20, 13, 13, 16, 16);
+        DUE.judged(x, 20, 12, 13, 18, 16);
+        DUE.judged(x, 20, 12, 16, 18, 16);
+        DUE.judged(x, 20, 13, 16, 19, 16);
+        DUE.judged(x, 20, 23, 15, 18, 15);
+        DUE.judged(x, 20, 23, 15, 18, 17);
+        DUE.judged(x, 20, 13, 16, 19, 15);
+        DUE.judged(x, 20, 12, 0, 18, 99 - 59);
+        DUE.judged(x, 20, 21, 0, 18, 57);
+        DUE.judged(x, 20, 21, 16, 18, -1);
+        DUE.judged(x, 20, 1, -1, 59, -1);
+        DUE.judged(x, 20, 11, 0, 59, -1);
+        DUE.judged(x, 20, 1, Integer.MAX_VALUE, 18, 16);
+        DUE.judged(x, 20, 1, Integer.MIN_VALUE, 18, 16);
+        DUE.judged(x, 60, 0, 55, 58, 56);
+        DUE.judged(x, 60, 11, 55, 59, 56);
+        DUE.judged(x, 60, 1, 58, 58, 56);
         // Done at T, or within KEEP ahead of it.
         x.dinner(1);
-        judged(x, 5, 0, 0, 3);
-        judged(x, 6, 0, 0, 3);
-        judged(x, 7, 13, 0, 3);
-        judged(x, 4, 13, 0, 3);
+        DUE.judged(x, 5, 0, 0, 3);
+        DUE.judged(x, 6, 0, 0, 3);
+        DUE.judged(x, 7, 13, 0, 3);
+        DUE.judged(x, 4, 13, 0, 3);
     }
 
     private static void judgedStir() {
@@ -105,7 +97,7 @@ public final class PlansTest {
         int[][] due = {{0, 0, 0}, {0, 0, 1075}, {1075, 1075, 1075}, {0, 0, 1075}, {1075, 1075, 1075}};
         for (int d = 0; d < 5; d++) {
             x.dinner(1 << d);
-            for (int i = 0; i < 3; i++) judged(x, 8 + i, due[d][i], 5 + i);
+            for (int i = 0; i < 3; i++) DUE.judged(x, 8 + i, due[d][i], 5 + i);
         }
     }
 
@@ -114,17 +106,17 @@ public final class PlansTest {
         HotAtSeven x = DUE.with("kitchen 1 1 1 9 9 1 1;dish 0 0 0;ring 2 0 0 1;rest 1 0;ring 2 0 0 1;dish 0 0 0;ring 5 0 0 1;"
             + "dish 0 0 0;oven 2 0 0 1 2;rest 1 0;oven 2 0 0 3 4;dish 0 0 0;oven 5 0 0 0 9;dish 0 0 0;hand 2 0;rest 1 0;hand 2 0;dish 0 0 0;hand 5 0;");
         x.dinner(0b11);
-        judged(x, 20, 1151, 15, 17, 18, 15);
+        DUE.judged(x, 20, 1151, 15, 17, 18, 15);
         x.out(18);
         x.dinner(1);
-        judged(x, 20, 1181, 15, 17, 18);
+        DUE.judged(x, 20, 1181, 15, 17, 18);
         x.out(60);
         x.dinner(0b1100);
-        judged(x, 20, 1153, 15, 17, 18, 15);
+        DUE.judged(x, 20, 1153, 15, 17, 18, 15);
         x.dinner(0b110000);
-        judged(x, 20, 1155, 15, 17, 18, 15);
+        DUE.judged(x, 20, 1155, 15, 17, 18, 15);
         x.dinner(0b110);
-        judged(x, 20, 0, 15, 15, 17, 18);
+        DUE.judged(x, 20, 0, 15, 15, 17, 18);
     }
 
     private static void judgedRow() {
@@ -142,77 +134,64 @@ public final class PlansTest {
         DUE.is("by 61", x.judge(0, 0, 61), HotAtSeven.BAD);
     }
 
-    private static void least(HotAtSeven x, int t, int cost, int... choices) {
-        DUE.is("cost by " + t, x.least(t, -1), cost);
-        for (int k = 0; k < choices.length; k++) DUE.is("choice by " + t + " of " + k, x.least(t, k), choices[k]);
-        DUE.is("no more", x.least(t, choices.length), NONE);
-        DUE.is("far more", x.least(t, Integer.MAX_VALUE), NONE);
-    }
-
-    private static void begins(HotAtSeven x, int t, int... begins) {
-        for (int k = 0; k < begins.length; k++) DUE.is("begins by " + t + " of " + k, x.begins(t, k), begins[k]);
-        DUE.is("no more", x.begins(t, begins.length), NONE);
-        DUE.is("far more", x.begins(t, Integer.MAX_VALUE), NONE);
-    }
-
     private static void ties() {
         HotAtSeven x = DUE.with("kitchen 0 0 0 0 0 1 0;dish 1 0 0;hand 1 0;dish 1 0 0;hand 1 0;dish 1 3 0;hand 1 0;dish 2 1 0;hand 1 0;");
         x.dinner(0b11);
-        least(x, 10, 0, 0, 1);
-        begins(x, 10, 9, 8);
+        DUE.least(x, 10, 0, 0, 1);
+        DUE.begins(x, 10, 9, 8);
         x.dinner(0b110);
-        least(x, 10, 0, 1, 0);
-        begins(x, 10, 8, 9);
+        DUE.least(x, 10, 0, 1, 0);
+        DUE.begins(x, 10, 8, 9);
         x.dinner(0b1100);
-        least(x, 10, 1, 0, 1);
+        DUE.least(x, 10, 1, 0, 1);
         x.dinner(0b1110);
-        least(x, 10, 2, 1, 0, 2);
-        begins(x, 10, 8, 9, 7);
+        DUE.least(x, 10, 2, 1, 0, 2);
+        DUE.begins(x, 10, 8, 9, 7);
         x.dinner(0b1111);
-        least(x, 10, NONE);
-        begins(x, 10);
-        least(x, 2, NONE);
+        DUE.least(x, 10, NONE);
+        DUE.begins(x, 10);
+        DUE.least(x, 2, NONE);
         x.dinner(0b110);
-        least(x, 1, NONE);
-        least(x, 2, 0, 1, 0);
+        DUE.least(x, 1, NONE);
+        DUE.least(x, 2, 0, 1, 0);
     }
 
     private static void waits() {
         HotAtSeven x = DUE.with("kitchen 0 0 0 0 0 1 0;dish 0 0 0;hand 1 1;rest 2 0;dish 0 0 0;hand 1 0;rest 2 0;");
         x.dinner(3);
-        least(x, 10, 1, 1, 0);
-        begins(x, 10, 6, 8, 7, 8);
+        DUE.least(x, 10, 1, 1, 0);
+        DUE.begins(x, 10, 6, 8, 7, 8);
         // The first of two waits that cost the same, and the second if only that serves.
         HotAtSeven y = DUE.with("kitchen 1 0 0 0 0 1 0;away 17 17;dish 1 9 0;hand 1 1;ring 1 1 0 0;hand 1 0;dish 0 0 0;ring 1 0 0 0;rest 1 0;");
-        least(y, 20, 1, 2);
-        begins(y, 20, 16, 18, 19);
+        DUE.least(y, 20, 1, 2);
+        DUE.begins(y, 20, 16, 18, 19);
         y.dinner(3);
-        least(y, 20, 1, 4, 0);
-        begins(y, 20, 16, 17, 19, 18, 19);
+        DUE.least(y, 20, 1, 4, 0);
+        DUE.begins(y, 20, 16, 17, 19, 18, 19);
     }
 
     private static void losses() {
         HotAtSeven x = DUE.with("kitchen 0 0 0 0 0 1 0;away 9 9;dish 2 4 0;keep 5 1 3;hand 1 0;keep 2 0 9;");
-        least(x, 11, 5 * 3 + 2 * 9, 0);
-        least(x, 12, 5 * 3 + 2 * 9 + 4, 1);
-        least(x, 7, NONE);
-        least(x, 8, 33, 0);
+        DUE.least(x, 11, 5 * 3 + 2 * 9, 0);
+        DUE.least(x, 12, 5 * 3 + 2 * 9 + 4, 1);
+        DUE.least(x, 7, NONE);
+        DUE.least(x, 8, 33, 0);
     }
 
     private static void pans() {
         String dish = "dish 2 1 1;rest 2 0;";
         HotAtSeven x = DUE.with("kitchen 0 0 0 0 0 1 1;" + dish + dish + "dish 0 0 0;rest 2 0;");
         x.dinner(0b11);
-        least(x, 10, 2, 0, 2);
+        DUE.least(x, 10, 2, 0, 2);
         x.dinner(0b101);
-        least(x, 10, 0, 0, 0);
+        DUE.least(x, 10, 0, 0, 0);
         HotAtSeven none = DUE.with("kitchen 0 0 0 0 0 1 0;" + dish);
-        least(none, 10, NONE);
+        DUE.least(none, 10, NONE);
         // The pan is held through a wait, and no longer than the last step.
         HotAtSeven wait = DUE.with("kitchen 0 0 0 0 0 1 1;away 7 7;dish 0 0 1;hand 1 1;rest 2 0;dish 2 0 1;rest 1 0;rest 1 0;");
         wait.dinner(3);
-        least(wait, 10, NONE);
-        judged(wait, 10, 1066, 6, 8, 6, 7);
+        DUE.least(wait, 10, NONE);
+        DUE.judged(wait, 10, 1066, 6, 8, 6, 7);
     }
 
     private static void seven() {
@@ -295,7 +274,7 @@ public final class PlansTest {
         DUE.is("both at 19", z.heat(20, 19), 5);
         z.dinner(5);
         DUE.is("not both", z.least(20, -1), NONE);
-        judged(z, 20, 1194, 17, 19);
+        DUE.judged(z, 20, 1194, 17, 19);
     }
 
     private static void wanted() {
@@ -315,11 +294,11 @@ public final class PlansTest {
     private static void lastMinute() {
         HotAtSeven x = DUE.with("kitchen 3 3 3 9 9 3 9;dish 0 0 1;oven 30 0 2 9 9;ring 30 0 2 1;");
         DUE.is("earliest", x.earliest(), 60);
-        begins(x, 60, 0, 30);
+        DUE.begins(x, 60, 0, 30);
         DUE.is("heat 0", x.heat(60, 0), 9);
         DUE.is("wanted 59", x.wanted(60, 59, 0), 1);
         DUE.is("pan 59", x.wanted(60, 59, 3), 1);
         DUE.is("by 59", x.least(59, -1), NONE);
-        judged(x, 60, 0, 0, 30);
+        DUE.judged(x, 60, 0, 0, 30);
     }
 }

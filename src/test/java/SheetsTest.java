@@ -16,18 +16,6 @@ public final class SheetsTest {
         DUE.end();
     }
 
-    /** An item from 0 to 59, as judge() sees it: a rest of one minute is done at its beginning and 1; -1: another. */
-    private static int item(HotAtSeven x, int sheet, int i) {
-        for (int t = 1; t <= 60; t++) if (x.judge(sheet, i, t) == 0) return t - 1;
-        return -1;
-    }
-
-    private static HotAtSeven reading() {
-        HotAtSeven x = new HotAtSeven();
-        DUE.is("book", Due.read(x, "kitchen 0 0 0 0 0 1 0;dish 0 0 0;rest 1 0;"), 1);
-        return x;
-    }
-
     private static void newObject() {
         HotAtSeven x = new HotAtSeven();
         for (int w = 0; w < 7; w++) DUE.is("new count " + w, x.count(w), 0);
@@ -42,7 +30,7 @@ public final class SheetsTest {
     }
 
     private static void sheet() {
-        HotAtSeven x = reading();
+        HotAtSeven x = DUE.with(Due.RESTING);
         DUE.is("sheet 0", x.sheet(0, 0, 0), 0);
         DUE.is("sheet 7", x.sheet(7, 2, 40), 40);
         DUE.is("count", x.count(0), 2);
@@ -59,9 +47,9 @@ public final class SheetsTest {
         DUE.is("size, in place", x.sheet(7, 0, -5), SIZE);
         DUE.is("still there", x.set(7, 39, 70000), 70000);
         DUE.is("first item", x.set(7, 0, 9), 9);
-        DUE.is("item", item(x, 7, 0), 9);
+        DUE.is("item", Due.item(x, 7, 0), 9);
         DUE.is("in place", x.sheet(7, 2, 40), 40);
-        DUE.is("0 at first", item(x, 7, 0), 0);
+        DUE.is("0 at first", Due.item(x, 7, 0), 0);
         DUE.is("fewer", x.sheet(7, 0, 1), 1);
         DUE.is("no such place", x.set(7, 1, 0), PLACE);
         DUE.is("another lane", x.set(7, 0, 128), -128);
@@ -69,7 +57,7 @@ public final class SheetsTest {
     }
 
     private static void set() {
-        HotAtSeven x = reading();
+        HotAtSeven x = DUE.with(Due.RESTING);
         x.sheet(0, 0, 3);
         x.sheet(1, 1, 3);
         x.sheet(2, 2, 3);
@@ -79,11 +67,11 @@ public final class SheetsTest {
         DUE.is("byte 256", x.set(0, 0, 256), 0);
         DUE.is("byte -129", x.set(0, 0, -129), 127);
         DUE.is("byte 261", x.set(0, 1, 256 + 5), 5);
-        DUE.is("byte kept", item(x, 0, 1), 5);
+        DUE.is("byte kept", Due.item(x, 0, 1), 5);
         DUE.is("short 32768", x.set(1, 1, 32768), -32768);
         DUE.is("short 70000", x.set(1, 1, 70000), 4464);
         DUE.is("short kept", x.set(1, 2, 65536 + 11), 11);
-        DUE.is("short item", item(x, 1, 2), 11);
+        DUE.is("short item", Due.item(x, 1, 2), 11);
         DUE.is("int", x.set(2, 2, LEAST), LEAST);
         DUE.is("int", x.set(2, 2, MOST), MOST);
         DUE.is("place -1", x.set(0, -1, 0), PLACE);
@@ -97,32 +85,32 @@ public final class SheetsTest {
     }
 
     private static void copyWithin() {
-        HotAtSeven x = reading();
+        HotAtSeven x = DUE.with(Due.RESTING);
         x.sheet(0, 0, 5);
         for (int i = 0; i < 5; i++) x.set(0, i, 10 + i);
         DUE.is("later", x.copy(0, 0, 0, 1, 4), 4);
         int[] later = {10, 10, 11, 12, 13};
-        for (int i = 0; i < 5; i++) DUE.is("later " + i, item(x, 0, i), later[i]);
+        for (int i = 0; i < 5; i++) DUE.is("later " + i, Due.item(x, 0, i), later[i]);
         DUE.is("earlier", x.copy(0, 2, 0, 0, 3), 3);
         int[] earlier = {11, 12, 13, 12, 13};
-        for (int i = 0; i < 5; i++) DUE.is("earlier " + i, item(x, 0, i), earlier[i]);
+        for (int i = 0; i < 5; i++) DUE.is("earlier " + i, Due.item(x, 0, i), earlier[i]);
     }
 
     private static void copyBetween() {
-        HotAtSeven x = reading();
+        HotAtSeven x = DUE.with(Due.RESTING);
         x.sheet(0, 1, 3);
         x.sheet(1, 1, 2);
         x.set(0, 1, 7);
         x.set(0, 2, 8);
         DUE.is("copy", x.copy(0, 1, 1, 0, 2), 2);
-        DUE.is("item 0", item(x, 1, 0), 7);
-        DUE.is("item 1", item(x, 1, 1), 8);
-        DUE.is("source stays", item(x, 0, 1), 7);
+        DUE.is("item 0", Due.item(x, 1, 0), 7);
+        DUE.is("item 1", Due.item(x, 1, 1), 8);
+        DUE.is("source stays", Due.item(x, 0, 1), 7);
         DUE.is("none", x.copy(0, 3, 1, 2, 0), 0);
     }
 
     private static void copyRefused() {
-        HotAtSeven x = reading();
+        HotAtSeven x = DUE.with(Due.RESTING);
         x.sheet(0, 1, 3);
         x.sheet(1, 1, 2);
         x.sheet(2, 0, 3);
@@ -139,7 +127,7 @@ public final class SheetsTest {
     }
 
     private static void drop() {
-        HotAtSeven x = reading();
+        HotAtSeven x = DUE.with(Due.RESTING);
         x.sheet(2, 1, 17);
         DUE.is("drop", x.drop(2), 17);
         DUE.is("count", x.count(0), 0);
@@ -173,7 +161,7 @@ public final class SheetsTest {
         DUE.is("store", x.status(), 5);
         x.sheet(1, 1, -2);
         DUE.is("size", x.status(), 4);
-        DUE.is("book", Due.read(x, "kitchen 0 0 0 0 0 1 0;dish 0 0 0;rest 1 0;"), 1);
+        DUE.is("book", Due.read(x, Due.RESTING), 1);
         DUE.is("book leaves it", x.status(), 4);
         x.as(0, 1);
         DUE.is("kind", x.status(), 3);
