@@ -11,9 +11,11 @@ public final class EdgesAskedTest {
         stepsAs();
         kindsAs();
         stepsOfAsk();
+        bodies();
         asksWithinAsks();
         leastAndMost();
         numbersBehindOthers();
+        traceOfSixteen();
         traceEnds();
         traceIsEmptyAhead();
         traceOfRefused();
@@ -82,6 +84,38 @@ public final class EdgesAskedTest {
         DUE.is("no more of " + step + " " + what, x.trace(bodies.length), NONE);
     }
 
+    /** Each BODY by the least and the most that its step can tell. */
+    private static void bodies() {
+        DUE.of("10 lent to all STEPS: LONG.");
+        asked(one("hand 1 0;"), 0, 0, 1, 10);
+        asked(one("rest 30 0;"), 0, 0, 30, 10);
+        DUE.of("11 of RINGED ones: what 10 gives, and 10 times SIZE.");
+        asked(one("ring 1 0 1 0;"), 0, 0, 1, 11, 10);
+        asked(one("ring 30 0 1 1;"), 0, 0, 40, 11, 10);
+        DUE.of("12 of STIRRED ones: what 11 gives, twice.");
+        asked(one("ring 1 0 2 0;"), 0, 0, 2, 12, 11, 10);
+        asked(one("ring 30 0 2 1;"), 0, 0, 80, 12, 11, 10);
+        DUE.of("13 of BAKED ones: what 10 gives, and HIGH less LOW.");
+        asked(one("oven 1 0 2 9 9;"), 0, 0, 1, 13, 10);
+        asked(one("oven 30 0 2 0 9;"), 0, 0, 39, 13, 10);
+        DUE.of("14 of KEPT ones: what 10 gives, less MARK.");
+        asked(one("keep 1 0 9;"), 0, 0, 1 - 59, 14, 10, 22, 21, 20);
+        asked(one("keep 30 0 0;"), 0, 0, 30 - 50, 14, 10, 22, 21, 20);
+        DUE.of("20 lent to all STEPS: its number. 21 of RESTED ones: what 20 gives, and 50.");
+        asked(one("oven 1 0 0 0 0;"), 0, 1, 0, 20);
+        asked(one("rest 1 0;"), 0, 1, 50, 21, 20);
+        DUE.of("22 of KEPT ones: what 21 gives, and LOSS. 23 of HANDED ones: what 20 gives, and SIZE. 24 of STIRRED ones: 0 less what 20 gives.");
+        asked(one("keep 1 0 0;"), 0, 1, 50, 22, 21, 20);
+        asked(one("keep 1 0 9;"), 0, 1, 59, 22, 21, 20);
+        asked(one("hand 30 0;"), 0, 1, 30, 23, 20, 10);
+        asked(one("ring 1 0 2 0;"), 0, 1, 0, 24, 20);
+        asked(DUE.with(KITCHEN + "dish 0 0 0;rest 1 0;ring 1 0 2 0;"), 1, 1, -1, 24, 20);
+    }
+
+    private static HotAtSeven one(String step) {
+        return DUE.with(KITCHEN + "dish 0 0 0;" + step);
+    }
+
     private static void asksWithinAsks() {
         DUE.of("(Of an ask the BODY told for the KIND begins, else that of the nearest KIND that it is, too, else the one that is lent;"
             + " SIZE, MARK within others are asked of the same STEP anew.)");
@@ -117,6 +151,19 @@ public final class EdgesAskedTest {
         HotAtSeven x = DUE.with(KITCHEN + ("dish 0 0 0;" + "ring 1 0 0 0;".repeat(3)).repeat(8));
         x.dinner(0b10000000);
         for (int s = 0; s < 24; s++) DUE.is("MARK of " + s, x.ask(s, 1), s);
+    }
+
+    /** No ask leaves more than five numbers, so all of them are among the first 16, and the 17th is NONE. */
+    private static void traceOfSixteen() {
+        DUE.of("each of which leaves its number in THE TRACE as it begins (the first 16)");
+        HotAtSeven x = DUE.with(KITCHEN + "dish 0 0 0;keep 1 0 0;hand 1 0;ring 1 0 2 0;dish 0 0 0;ring 1 0 0 0;oven 1 0 0 0 0;rest 1 0;");
+        for (int step = 0; step < 6; step++) {
+            for (int what = 0; what < 2; what++) {
+                x.ask(step, what);
+                DUE.is("the first", x.trace(0) > 0 ? 1 : 0, 1);
+                for (int i = 5; i < 18; i++) DUE.is("trace " + i, x.trace(i), NONE);
+            }
+        }
     }
 
     private static void traceEnds() {

@@ -34,6 +34,7 @@ public final class EdgesBooksTest {
         counts();
         countsAtMost();
         countsOfDinner();
+        manyCalls();
         DUE.end();
     }
 
@@ -425,5 +426,20 @@ public final class EdgesBooksTest {
             DUE.is("dishes of " + set, x.count(3), Integer.bitCount(set));
             DUE.is("steps of " + set, x.count(4), (set & 1) + (set >> 1 & 1) * 2 + (set >> 2) * 3);
         }
+    }
+
+    private static void manyCalls() {
+        DUE.of("An object is used for at most 512 calls after it has been made");
+        HotAtSeven x = new HotAtSeven();
+        String text = "kitchen 1 1 1 3 2 1 2;dish 2 1 0;rest 5 0;dish 0 0 0;hand 1 0;";
+        int calls = (text.length() + 7) / 8 + 1;
+        DUE.is("read", Due.read(x, text), 2);
+        for (; calls < 511; calls++) {
+            int t = 5 + calls % 56;
+            if (calls % 3 == 0) DUE.is("call " + calls, x.begins(t, 0), t - 5);
+            else if (calls % 3 == 1) DUE.is("call " + calls, x.sheet(calls % 8, 2, calls % 41), calls % 41);
+            else DUE.is("call " + calls, x.dinners(1 + calls % 2, t, 0), 3);
+        }
+        DUE.is("call 512", x.earliest(), 5);
     }
 }

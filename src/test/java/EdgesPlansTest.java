@@ -29,11 +29,13 @@ public final class EdgesPlansTest {
         leastCostOnly();
         leastFirstOfSeveral();
         leastByDishes();
+        leastWhateverWasAsked();
         beginsNumbers();
         sevenTimes();
         sevenAndLeast();
         earliestEnds();
         earliestIsTheLeast();
+        earliestWhateverWasAsked();
         heatNumbers();
         heatsLowest();
         heatsOfTheLastMinute();
@@ -318,6 +320,29 @@ public final class EdgesPlansTest {
         DUE.least(y, 1, NONE);
     }
 
+    /** By other times and of other dinners ahead of it; dish 0 is done a minute early for 9, or by a wait for 1. */
+    private static void leastWhateverWasAsked() {
+        DUE.of("LEAST by T: the PLAN of the least COST");
+        HotAtSeven x = DUE.with("kitchen 0 0 0 0 0 1 0;away 38 38;dish 1 9 0;hand 1 1;rest 1 0;dish 0 0 0;keep 30 0 9;dish 2 0 0;keep 20 0 1;");
+        for (int round = 0; round < 4; round++) {
+            x.dinner(0b001);
+            DUE.least(x, 40, 1, 2);
+            DUE.least(x, 30, 0, 0);
+            x.dinner(0b011);
+            DUE.least(x, 40, 271, 2, 0);
+            DUE.least(x, 41, 270, 0, 0);
+            DUE.least(x, 40, 271, 2, 0);
+            DUE.least(x, 29, NONE);
+            x.dinner(0b111);
+            DUE.least(x, 40, 291, 2, 0, 0);
+            DUE.is("seven", x.seven(40), 1);
+            DUE.is("dinners", x.dinners(1, 40, 0), 7);
+            DUE.least(x, 40, 291, 2, 0, 0);
+            x.dinner(0b100);
+            DUE.least(x, 40, 20, 0);
+        }
+    }
+
     private static void beginsNumbers() {
         DUE.of("When the k-th STEP of the DINNER (0 on) begins in LEAST's PLAN by T; NONE: not so many, no PLAN. BAD: T, k below 0; STATE: no BOOK.");
         HotAtSeven x = DUE.with(TWELVE);
@@ -407,6 +432,21 @@ public final class EdgesPlansTest {
         DUE.is("the last minute", last.earliest(), 60);
         HotAtSeven oven = DUE.with("kitchen 0 0 1 1 9 1 0;dish 0 0 0;oven 1 0 0 9 9;");
         DUE.is("when it is hot", oven.earliest(), 9);
+    }
+
+    private static void earliestWhateverWasAsked() {
+        DUE.of("EARLIEST: the least T by which there is a PLAN.");
+        HotAtSeven x = DUE.with("kitchen 0 2 0 0 0 2 0;dish 0 0 0;ring 3 0 2 1;dish 0 0 0;ring 3 0 2 1;");
+        x.dinner(3);
+        DUE.is("at first", x.earliest(), 3);
+        DUE.is("for one hand", x.dinners(1, 60, 0), 2);
+        DUE.is("behind that", x.earliest(), 3);
+        DUE.is("one ring", x.mend(60, 0), NONE);
+        DUE.is("behind that", x.earliest(), 3);
+        x.out(2);
+        DUE.is("one is out", x.earliest(), NONE);
+        x.out(3);
+        DUE.is("one is out behind it", x.earliest(), 3);
     }
 
     // ---- heats

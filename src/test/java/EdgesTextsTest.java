@@ -38,6 +38,7 @@ public final class EdgesTextsTest {
         firstToken();
         itsFirstByte();
         leastOfOneToken();
+        numbersNotAsTold();
         atTheEnd();
         wordsThatAreCutOff();
         wordsLetterByLetter();
@@ -478,6 +479,22 @@ public final class EdgesTextsTest {
         // A fourth step that is within the third.
         DUE.fails(KITCHEN + DISH + HAND.repeat(2) + "hand 1 hand", 58, 1);
         DUE.fails(KITCHEN + HAND.repeat(4), 22, 1);
+    }
+
+    private static void numbersNotAsTold() {
+        DUE.of("2 a NUMBER that is not as told");
+        DUE.fails("kitchen 4", 8, 2);
+        DUE.fails("kitchen 3", 9, 1);
+        DUE.fails("kitchen 1 1 1 3 2 0", 18, 2);
+        DUE.fails("kitchen 1 1 1 3 2 1", 19, 1);
+        DUE.fails(KITCHEN + "away 9 8", 29, 2);
+        DUE.fails(KITCHEN + "away 9 9", 30, 1);
+        DUE.fails(KITCHEN + DISH + "rest 31", 38, 2);
+        DUE.fails(KITCHEN + DISH + "rest 30", 40, 1);
+        DUE.fails(KITCHEN + DISH + "rest 0", 38, 2);
+        DUE.fails(KITCHEN + DISH + "rest 1", 39, 1);
+        DUE.fails(KITCHEN + DISH + "oven 1 0 0 5 4", 46, 2);
+        DUE.fails(KITCHEN + DISH + "oven 1 0 0 5 5", 47, 1);
     }
 
     private static void atTheEnd() {

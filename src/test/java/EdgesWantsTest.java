@@ -28,6 +28,7 @@ public final class EdgesWantsTest {
         warmsFromTheStart();
         warmsAtMost();
         coolsAtMost();
+        heatsThroughAWait();
         heatsOfTwoDishes();
         heatsOfTwoDishesBetween();
         heatNoLessThanNought();
@@ -366,6 +367,23 @@ public final class EdgesWantsTest {
         between(9, 0, 5, "3 3", "0 2", false);
         between(9, 9, 0, "9 9", "0 0", true);
         between(9, 8, 0, "9 9", "0 0", false);
+    }
+
+    /** A minute more between the two steps, if that is what it needs to cool, or to warm. */
+    private static void heatsThroughAWait() {
+        DUE.of("from MINUTE to MINUTE it grows by WARMS at most, falls by COOLS at most");
+        int[][] due = {{9, 0}, {5, 0}, {4, 1}, {3, 1}, {2, NONE}};
+        for (int[] d : due) {
+            for (int wait = 0; wait <= 1; wait++) {
+                int cost = d[1] <= wait ? d[1] : NONE;
+                HotAtSeven cool = DUE.with("kitchen 0 0 1 9 " + d[0] + " 1 0;dish 0 0 0;oven 2 " + wait + " 0 9 9;oven 2 0 0 0 4;");
+                DUE.is("falls by " + d[0], cool.least(20, -1), cost);
+                DUE.is("its choice", cool.least(20, 0), cost);
+                HotAtSeven warm = DUE.with("kitchen 0 0 1 " + d[0] + " 9 1 0;dish 0 0 0;oven 2 " + wait + " 0 0 0;oven 2 0 0 5 9;");
+                DUE.is("grows by " + d[0], warm.least(20, -1), cost);
+                DUE.is("its choice", warm.least(20, 0), cost);
+            }
+        }
     }
 
     private static void heatsOfTwoDishes() {
