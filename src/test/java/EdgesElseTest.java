@@ -26,6 +26,7 @@ public final class EdgesElseTest {
         mendNoOthersAhead();
         mendAskedFirst();
         mendLeastCost();
+        mendOfTheFullestBook();
         mendNoPlan();
         slackNumbers();
         slackOfOne();
@@ -299,6 +300,18 @@ public final class EdgesElseTest {
         DUE.is("at 17", x.mend(20, 17), 1);
         DUE.is("at 18", x.mend(20, 18), NONE);
         DUE.is("at 19", x.mend(20, 19), 0);
+    }
+
+    /** Four of eight dishes of twelve choices, two rings: two are on at 17, two at 16; by one ring at 17, 16, 15, 14. */
+    private static void mendOfTheFullestBook() {
+        DUE.of("and no others begin ahead of m: the least COST; NONE.");
+        HotAtSeven x = DUE.with("kitchen 0 2 0 0 0 1 0;" + "dish 2 1 0;ring 1 1 0 1;rest 1 1;rest 1 0;".repeat(8));
+        int[][] due = {{0, 6}, {13, 6}, {14, 6}, {15, NONE}, {16, NONE}, {17, NONE}, {18, 2}, {59, 2}};
+        for (int set : new int[] {0b00001111, 0b11110000, 0b10011001}) {
+            x.dinner(set);
+            DUE.least(x, 20, 2, 0, 0, 1, 1);
+            for (int[] d : due) DUE.is("set " + set + " at " + d[0], x.mend(20, d[0]), d[1]);
+        }
     }
 
     private static void mendNoPlan() {

@@ -30,6 +30,7 @@ public final class EdgesPlansTest {
         leastFirstOfSeveral();
         leastByDishes();
         leastWhateverWasAsked();
+        leastOfTheFullestBook();
         beginsNumbers();
         sevenTimes();
         sevenAndLeast();
@@ -341,6 +342,30 @@ public final class EdgesPlansTest {
             x.dinner(0b100);
             DUE.least(x, 40, 20, 0);
         }
+    }
+
+    /**
+     * Eight dishes of twelve choices, and one ring in a minute. A ring is on so many minutes ahead of 17 as the dish is
+     * early and waits in all, 0 to 4, each for a cost of 1; so four dishes cost 0, 1, 2 and 3.
+     */
+    private static void leastOfTheFullestBook() {
+        DUE.of("LEAST by T: the PLAN of the least COST, of several the first by CHOICES (of the DISHES by numbers)");
+        HotAtSeven x = DUE.with("kitchen 0 1 0 0 0 1 0;" + "dish 2 1 0;ring 1 1 0 1;rest 1 1;rest 1 0;".repeat(8));
+        for (int d = 0; d < 8; d++) DUE.is("choices", x.dish(d, 5), 12);
+        for (int set : new int[] {0b00001111, 0b11110000, 0b10011001}) {
+            x.dinner(set);
+            DUE.least(x, 20, 6, 0, 1, 2, 5);
+            DUE.begins(x, 20, 17, 18, 19, 16, 17, 18, 15, 16, 17, 14, 16, 17);
+            DUE.is("by waits alone there are three minutes", x.seven(20), 0);
+            DUE.is("earliest", x.earliest(), 6);
+            DUE.is("more", x.more(20), 0);
+            DUE.is("dinners", x.dinners(1, 20, 0), 162);
+            DUE.is("the greatest", x.dinners(1, 20, 1), 15);
+        }
+        x.dinner(0b11100000);
+        DUE.is("by waits alone", x.seven(20), 1);
+        DUE.is("earliest", x.earliest(), 5);
+        DUE.is("more", x.more(20), 0b00011111);
     }
 
     private static void beginsNumbers() {
